@@ -864,7 +864,9 @@ public final class TextRegions {
                     out.tellBits(1, 1);
                     out.tellSigned(s - nextS);
                 } else {
-                    out.tellBits(0, i == 0 ? 0 : 1);
+                    if (i > 0) {
+                        out.tellBits(0, 1);
+                    }
                     out.tellNumber(ownStrip - strip - 1);
                     out.tellSigned(s - firstS);
                     strip = ownStrip;
@@ -875,7 +877,9 @@ public final class TextRegions {
                 tellDiffers(layout.differs[instance], layout.symbols.sampleCount(symbol));
                 nextS = layout.nextS(instance);
             }
-            out.tellBits(0, layout.count == 0 ? 0 : 1);
+            if (layout.count > 0) {
+                out.tellBits(0, 1);
+            }
         }
 
         private void tellDiffers(long differs, int samples) {
