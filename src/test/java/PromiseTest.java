@@ -32,11 +32,14 @@ public final class PromiseTest {
         ways();
         ordering();
         orderingAlongTheRow();
+        orderingNeighbours();
+        orderingWithTheWholeInstance();
         composing();
         composedSamples();
         writing();
         writingCodes();
         writingStripsAndRuns();
+        mostRuns();
         bytes();
         feeding();
         passing();
@@ -45,6 +48,7 @@ public final class PromiseTest {
         refusals();
         refusedCodes();
         refusedNamesOfOneCode();
+        readingLongCodes();
         places();
         tellings();
         clearing();
@@ -238,6 +242,54 @@ public final class PromiseTest {
         due("the third one now", 2, () -> y.place(2, 1));
     }
 
+    /** Neighbours that would take as many bits stay, and so do those of two strips, and what is gone. */
+    private static void orderingNeighbours() {
+        TextRegions x = new TextRegions(16, 16, 1);
+        x.symbol(1, 1);
+        x.instance(0, 3, 0);
+        x.instance(0, 3, 0);
+        x.refine(1, 0, 0, true);
+        x.order(1);
+        due("equals stay", 1, () -> x.place(1, 6));
+        TextRegions y = new TextRegions(16, 16, 1);
+        y.symbol(1, 1);
+        y.instance(0, 3, 5);
+        y.instance(0, 0, 0);
+        y.order(8);
+        due("two strips stay", 5, () -> y.place(0, 2));
+        y.way(2, 3);
+        y.order(8);
+        due("one strip now", 0, () -> y.place(0, 2));
+        TextRegions z = backward(1);
+        z.clear();
+        z.symbol(2, 1);
+        z.instance(0, 31, 0);
+        due("one instance alone", 3 + 8 + 9 + 11 + 3, () -> z.order(8));
+        due("it stays", 31, () -> z.place(0, 1));
+    }
+
+    private static void orderingWithTheWholeInstance() {
+        TextRegions x = new TextRegions(16, 16, 0);
+        x.symbol(1, 1);
+        x.symbol(2, 2);
+        x.way(2, 2);
+        x.instance(0, 9, 2);
+        x.instance(1, 7, 3);
+        x.refine(1, 0, 1, true);
+        x.refine(1, 1, 1, true);
+        // count, ways, lengths, strip: 3 + 8 + 8 + 9; T: 2 * 2; codes and the bits behind: 2 * 3; runs 2, 2: 3 + 3
+        due("one way round", 28 + 4 + 6 + 6 + 9 + 5, () -> x.order(0));
+        due("the other way round", 28 + 4 + 6 + 6 + 7 + 1, () -> x.order(2));
+        int[][] all = {{1, 7, 3, 7, 3, 0, 2}, {0, 9, 2, 9, 2, 0, 0}};
+        for (int i = 0; i < 2; i++) {
+            for (int what = 0; what < 7; what++) {
+                int instance = i;
+                int w = what;
+                due("ordered: place(" + i + ", " + what + ")", all[i][what], () -> x.place(instance, w));
+            }
+        }
+    }
+
     // Promise 8
     private static void composing() {
         // 1100 is laid, then 1010 (its third sample differs from its symbol's)
@@ -269,6 +321,9 @@ public final class PromiseTest {
         due("light and light", true, () -> same.at(1, 1));
         due("light and dark", false, () -> same.at(2, 1));
         due("beside it", false, () -> same.at(0, 1));
+        same.way(3, 2);
+        due("one sample differs from light", 1, () -> same.compose());
+        due("all is light before it is composed again", 1, () -> same.compose());
         TextRegions x = new TextRegions(3, 3, 0);
         due("nothing is laid", 0, () -> x.compose());
         x.symbol(8, 8);
@@ -382,6 +437,23 @@ public final class PromiseTest {
         // strip 0 (and 16), S 1: runs 1, 1, 4; S 4 as expected: runs 4, 2; strip 3 (2 more), S 5 - 1: runs 0, 2, 3, 1
         dueBytes("two strips", x, "00100 00 0 00 000 000010001 011 1 1 010 010 00101"
                 + "1 1 1 1 00101 011 0 011 0001001 1 1 1 011 00100 010 0");
+    }
+
+    // Promises 10 and 14: the most runs that there can be
+    private static void mostRuns() {
+        TextRegions x = new TextRegions(9, 9, 1);
+        x.symbol(3, 1);
+        x.instance(0, 0, 0);
+        x.refine(0, 0, 0, true);
+        x.refine(0, 2, 0, true);
+        dueBytes("runs of 0, 1, 1, 1", x, "010 00 0 00 000 000010001 1 1 1 1 010 010 010 0");
+        x.pass();
+        due("they are read", 1, () -> x.read());
+        due("it differs at two", 2, () -> x.place(0, 6));
+        x.compose();
+        due("at the first one", true, () -> x.at(0, 0));
+        due("not at the second one", false, () -> x.at(1, 0));
+        due("at the last one", true, () -> x.at(2, 0));
     }
 
     // Promise 11
@@ -552,6 +624,7 @@ public final class PromiseTest {
         dueReading("2: one more than was told", x, one + "1 0 1 1", -3, 24);
         dueReading("3: operator 5", x, "010 00 0 00 101 1", -4, 11);
         dueReading("3: operator 7", x, "010 00 0 00 111 1", -4, 11);
+        dueReading("3: operator 4 is fine", x, "1 00 0 00 100", 0, -1);
         dueReading("5: symbol 2", x, one + "011 0 0", -6, 24);
         dueReading("6: x 32", x, head + "000010001 0000001000001 1 0 0", -7, 34);
         dueReading("6: x 31 is fine", x, head + "000010001 00000111111 1 0 0", 1, -1);
@@ -611,9 +684,33 @@ public final class PromiseTest {
         String start = "010 00 0 00 000 0000 0001 000010001 1";
         dueReading("one code", x, start + "0 0 0", 1, -1);
         due("its symbol", 1, () -> x.place(0, 0));
+        dueReading("one code of the first symbol", x, "010 00 0 00 000 0001 0000 000010001 1 0 0 0", 1, -1);
+        due("its symbol", 0, () -> x.place(0, 0));
         dueReading("5: no code", x, start + "1 0 0", -6, 30);
         dueReading("6 is looked at behind the name", x, "010 00 0 00 000 0000 0001 1 1 1 0 0", -6, 22);
         dueReading("6 behind a name that is", x, "010 00 0 00 000 0000 0001 1 1 0 0 0", -7, 22);
+    }
+
+    // Promise 14: lengths up to 15
+    private static void readingLongCodes() {
+        TextRegions x = new TextRegions(9, 9, 0);
+        StringBuilder lengths = new StringBuilder();
+        for (int i = 0; i < 16; i++) {
+            x.symbol(1, 1);
+            lengths.append(Integer.toBinaryString(16 + Math.max(1, 15 - i)).substring(1));
+        }
+        // lengths 15, 14, .., 1 and one more of 1 bit are too many; 15, 15, 14, .., 1 are full
+        dueReading("too many", x, "010 00 0 00 000" + lengths, -5, 75);
+        String full = "1111" + lengths.substring(0, 60);
+        String start = "010 00 0 00 000" + full + "000010001 1";
+        dueReading("the last of 15 bits", x, start + "111111111111111 0 0", 1, -1);
+        due("its symbol", 1, () -> x.place(0, 0));
+        dueReading("the first of 15 bits", x, start + "111111111111110 0 0", 1, -1);
+        due("its symbol", 0, () -> x.place(0, 0));
+        dueReading("14 bits", x, start + "11111111111110 0 0", 1, -1);
+        due("its symbol", 2, () -> x.place(0, 0));
+        dueReading("one bit", x, start + "0 0 0", 1, -1);
+        due("its symbol", 15, () -> x.place(0, 0));
     }
 
     // Promise 15
