@@ -7,6 +7,25 @@ import java.util.TreeSet;
 
 /** The class has the document's face and nothing else that can be seen (LANGUAGE.md, rules 1 and 5). */
 public final class FaceTest {
+    private static final String[] FACE = {
+        "public int symbol(int,int) throws IllegalArgumentException,UnsupportedOperationException",
+        "public boolean put(int,int,int,boolean) throws IndexOutOfBoundsException",
+        "public int instance(int,int,int) throws IndexOutOfBoundsException,IllegalArgumentException,"
+                + "UnsupportedOperationException",
+        "public boolean refine(int,int,int,boolean) throws IndexOutOfBoundsException",
+        "public int way(int,int) throws IllegalArgumentException",
+        "public int order(int) throws IllegalArgumentException",
+        "public int compose()",
+        "public boolean at(int,int) throws IndexOutOfBoundsException",
+        "public int write()",
+        "public int byteAt(int) throws IndexOutOfBoundsException",
+        "public int feed(int) throws IllegalArgumentException,UnsupportedOperationException",
+        "public int pass() throws UnsupportedOperationException",
+        "public int read()",
+        "public int place(int,int) throws IndexOutOfBoundsException",
+        "public int told(int)",
+        "public void clear()"};
+
     private static int wrong = 0;
 
     private static void check(boolean holds, String what) {
@@ -19,14 +38,12 @@ public final class FaceTest {
     public static void main(String[] args) {
         Class<?> face = TextRegions.class;
         check(Modifier.isPublic(face.getModifiers()) && Modifier.isFinal(face.getModifiers()), "public and final");
-        Set<String> due = new TreeSet<>(Set.of("int symbol 2", "boolean put 4", "int instance 3", "boolean refine 4",
-                "int way 2", "int order 1", "int compose 0", "boolean at 2", "int write 0", "int byteAt 1"));
-        due.addAll(Set.of("int feed 1", "int pass 0", "int read 0", "int place 2", "int told 1", "void clear 0"));
+        Set<String> due = new TreeSet<>(Set.of(FACE));
         Set<String> found = new TreeSet<>();
         Set<String> hidden = new TreeSet<>();
         for (Method m : face.getDeclaredMethods()) {
             if (Modifier.isPublic(m.getModifiers())) {
-                found.add(m.getReturnType() + " " + m.getName() + " " + m.getParameterCount());
+                found.add(m.toString().replace("java.lang.", "").replace("TextRegions.", ""));
             } else {
                 check(Modifier.isPrivate(m.getModifiers()), m + " is not private");
                 hidden.add(m.getName());
@@ -34,10 +51,11 @@ public final class FaceTest {
         }
         check(found.equals(due), "public methods: " + found);
         for (String row : due) {
-            check(!hidden.contains(row.split(" ")[1]), "a private method bears a public one's name: " + row);
+            String name = row.substring(0, row.indexOf('(')).split(" ")[2];
+            check(!hidden.contains(name), "a private method bears a public one's name: " + name);
         }
         for (Constructor<?> c : face.getDeclaredConstructors()) {
-            check(Modifier.isPublic(c.getModifiers()) && c.getParameterCount() == 3, c + " is not the document's");
+            check(c.toString().equals("public TextRegions(int,int,int)"), c + " is not the document's");
         }
         checkFields(face);
         for (Class<?> inside : face.getDeclaredClasses()) {

@@ -1,28 +1,5 @@
 /** Each promise of the document by itself: ordinary inputs, its edges, and wrong inputs. */
-public final class PromiseTest {
-    private static final String INDEX = "IndexOutOfBoundsException";
-    private static final String ARGUMENT = "IllegalArgumentException";
-    private static final String UNSUPPORTED = "UnsupportedOperationException";
-
-    private static int wrong = 0;
-
-    private interface Call {
-        Object make();
-    }
-
-    private static void due(String what, Object want, Call call) {
-        Object got;
-        try {
-            got = call.make();
-        } catch (RuntimeException e) {
-            got = e.getClass().getSimpleName();
-        }
-        if (!want.equals(got)) {
-            wrong++;
-            System.out.println(what + " answered " + got + ", due is " + want);
-        }
-    }
-
+public final class PromiseTest extends Checks {
     public static void main(String[] args) {
         newObject();
         symbols();
@@ -52,16 +29,14 @@ public final class PromiseTest {
         places();
         tellings();
         clearing();
-        if (wrong != 0) {
-            System.exit(1);
-        }
+        end();
     }
 
     // Promise 1
     private static void newObject() {
         int[][] rows = {{1, 1, 0, 1, 1, 0}, {24, 24, 1, 24, 24, 1}, {0, 25, -1, 1, 24, 0}, {25, 0, 2, 24, 1, 1},
-            {Integer.MIN_VALUE, Integer.MAX_VALUE, Integer.MAX_VALUE, 1, 24, 1},
-            {Integer.MAX_VALUE, Integer.MIN_VALUE, Integer.MIN_VALUE, 24, 1, 0}, {7, 9, 0, 7, 9, 0}};
+            {LEAST, MOST, MOST, 1, 24, 1},
+            {MOST, LEAST, LEAST, 24, 1, 0}, {7, 9, 0, 7, 9, 0}};
         for (int[] row : rows) {
             TextRegions x = new TextRegions(row[0], row[1], row[2]);
             for (int what = 0; what < 3; what++) {
@@ -85,7 +60,7 @@ public final class PromiseTest {
     // Promise 2
     private static void symbols() {
         TextRegions x = new TextRegions(8, 8, 0);
-        int[][] wrongSides = {{0, 1}, {1, 0}, {9, 1}, {1, 9}, {-1, 4}, {4, Integer.MIN_VALUE}, {Integer.MAX_VALUE, 4}};
+        int[][] wrongSides = {{0, 1}, {1, 0}, {9, 1}, {1, 9}, {-1, 4}, {4, LEAST}, {MOST, 4}};
         for (int[] sides : wrongSides) {
             due("symbol of a wrong side", ARGUMENT, () -> x.symbol(sides[0], sides[1]));
         }
@@ -115,7 +90,7 @@ public final class PromiseTest {
         due("a dark sample becomes light", true, () -> x.put(0, 2, 1, false));
         due("the last one of 64", true, () -> x.put(1, 7, 7, true));
         int[][] none = {{-1, 0, 0}, {2, 0, 0}, {0, -1, 0}, {0, 3, 0}, {0, 0, -1}, {0, 0, 2}, {1, 8, 0}, {1, 0, 8},
-            {Integer.MIN_VALUE, 0, 0}, {0, Integer.MAX_VALUE, 0}, {0, 0, Integer.MIN_VALUE}};
+            {LEAST, 0, 0}, {0, MOST, 0}, {0, 0, LEAST}};
         for (int[] row : none) {
             due("put where nothing is", INDEX, () -> x.put(row[0], row[1], row[2], true));
         }
@@ -128,7 +103,7 @@ public final class PromiseTest {
         x.symbol(2, 2);
         due("the first instance, least place", 0, () -> x.instance(0, -8, -8));
         due("the second one, greatest place", 1, () -> x.instance(0, 31, 31));
-        int[][] places = {{-9, 0}, {32, 0}, {0, -9}, {0, 32}, {Integer.MIN_VALUE, 0}, {0, Integer.MAX_VALUE}};
+        int[][] places = {{-9, 0}, {32, 0}, {0, -9}, {0, 32}, {LEAST, 0}, {0, MOST}};
         for (int[] place : places) {
             due("an instance elsewhere", ARGUMENT, () -> x.instance(0, place[0], place[1]));
         }
@@ -160,7 +135,7 @@ public final class PromiseTest {
         due("it is alike again", true, () -> x.refine(0, 7, 7, false));
         due("at no sample", 0, () -> x.place(0, 6));
         int[][] none = {{-1, 0, 0}, {2, 0, 0}, {1, 2, 0}, {1, 0, 3}, {1, -1, 0}, {1, 0, -1}, {0, 8, 0}, {0, 0, 8},
-            {Integer.MAX_VALUE, 0, 0}, {1, Integer.MIN_VALUE, 0}};
+            {MOST, 0, 0}, {1, LEAST, 0}};
         for (int[] row : none) {
             due("refine where nothing is", INDEX, () -> x.refine(row[0], row[1], row[2], true));
         }
@@ -178,12 +153,12 @@ public final class PromiseTest {
             }
             due("a way too great", ARGUMENT, () -> x.way(w, most[w] + 1));
             due("a way below 0", ARGUMENT, () -> x.way(w, -1));
-            due("a way far off", ARGUMENT, () -> x.way(w, Integer.MIN_VALUE));
+            due("a way far off", ARGUMENT, () -> x.way(w, LEAST));
             due("the way is as it was", most[what], () -> x.way(w, 0));
         }
         due("no such way", ARGUMENT, () -> x.way(4, 0));
         due("no such way", ARGUMENT, () -> x.way(-1, 0));
-        due("no such way", ARGUMENT, () -> x.way(Integer.MAX_VALUE, 0));
+        due("no such way", ARGUMENT, () -> x.way(MOST, 0));
     }
 
     /** Three instances of a symbol of width 2 in one row, the wrong way round. */
@@ -201,7 +176,7 @@ public final class PromiseTest {
         TextRegions x = backward(1);
         due("tries below 0", ARGUMENT, () -> x.order(-1));
         due("more than 8 tries", ARGUMENT, () -> x.order(9));
-        due("tries far off", ARGUMENT, () -> x.order(Integer.MIN_VALUE));
+        due("tries far off", ARGUMENT, () -> x.order(LEAST));
         // count, ways, strip: 5 + 8 + 9; each one's name and bit, the bit behind it: 3 * 3; S 4, -4, -4: 7 + 7 + 7
         due("bits without a try", 22 + 9 + 21, () -> x.order(0));
         due("the row is as it was", 4, () -> x.place(0, 1));
@@ -355,25 +330,11 @@ public final class PromiseTest {
         due("at is as composed last", true, () -> x.at(2, 1));
         due("one strip: as they stand in the row", 0, () -> x.compose());
         due("it is light", false, () -> x.at(2, 1));
-        int[][] none = {{-1, 0}, {5, 0}, {0, -1}, {0, 4}, {Integer.MIN_VALUE, 0}, {0, Integer.MAX_VALUE}};
+        int[][] none = {{-1, 0}, {5, 0}, {0, -1}, {0, 4}, {LEAST, 0}, {0, MOST}};
         for (int[] row : none) {
             due("at beside the region", INDEX, () -> x.at(row[0], row[1]));
         }
         due("at the last sample", false, () -> x.at(4, 3));
-    }
-
-    private static void dueBytes(String what, TextRegions x, String bits) {
-        StringBuilder all = new StringBuilder(bits.replace(" ", ""));
-        while (all.length() % 8 != 0) {
-            all.append('0');
-        }
-        due(what + ": bytes", all.length() / 8, () -> x.write());
-        for (int i = 0; i < all.length() / 8; i++) {
-            int n = i;
-            due(what + ": byte " + i, Integer.parseInt(all.substring(8 * i, 8 * i + 8), 2), () -> x.byteAt(n));
-        }
-        due(what + ": no more bytes", INDEX, () -> x.byteAt(all.length() / 8));
-        due(what + ": bits", bits.replace(" ", "").length(), () -> x.order(0));
     }
 
     // Promise 10
@@ -465,8 +426,8 @@ public final class PromiseTest {
         due("the last byte", 0, () -> x.byteAt(1));
         due("no byte -1", INDEX, () -> x.byteAt(-1));
         due("no byte 2", INDEX, () -> x.byteAt(2));
-        due("no such byte", INDEX, () -> x.byteAt(Integer.MAX_VALUE));
-        due("no such byte", INDEX, () -> x.byteAt(Integer.MIN_VALUE));
+        due("no such byte", INDEX, () -> x.byteAt(MOST));
+        due("no such byte", INDEX, () -> x.byteAt(LEAST));
         x.way(2, 3);
         due("as it was told last", 128, () -> x.byteAt(0));
         x.write();
@@ -479,7 +440,7 @@ public final class PromiseTest {
         TextRegions x = new TextRegions(9, 9, 1);
         due("a byte of -1", ARGUMENT, () -> x.feed(-1));
         due("a byte of 256", ARGUMENT, () -> x.feed(256));
-        due("a byte far off", ARGUMENT, () -> x.feed(Integer.MIN_VALUE));
+        due("a byte far off", ARGUMENT, () -> x.feed(LEAST));
         due("none came", 0, () -> x.told(6));
         due("a byte of 0", 1, () -> x.feed(0));
         due("a byte of 255", 2, () -> x.feed(255));
@@ -522,25 +483,6 @@ public final class PromiseTest {
         nearly.feed(0);
         due("one beyond 2000", UNSUPPORTED, () -> nearly.pass());
         due("as many as before", 1921, () -> nearly.told(6));
-    }
-
-    private static int feedBits(TextRegions x, String bits) {
-        StringBuilder all = new StringBuilder(bits.replace(" ", ""));
-        while (all.length() % 8 != 0) {
-            all.append('0');
-        }
-        for (int i = 0; i < all.length(); i += 8) {
-            x.feed(Integer.parseInt(all.substring(i, i + 8), 2));
-        }
-        return all.length() / 8;
-    }
-
-    private static void dueReading(String what, TextRegions x, String bits, int answer, int place) {
-        int came = feedBits(x, bits);
-        due(what + ": came", came, () -> x.told(6));
-        due(what, answer, () -> x.read());
-        due(what + ": place", place, () -> x.told(7));
-        due(what + ": none came then", 0, () -> x.told(6));
     }
 
     // Promise 14
@@ -739,10 +681,10 @@ public final class PromiseTest {
             }
         }
         due("place of nothing", -1, () -> x.place(0, -1));
-        due("place of nothing", -1, () -> x.place(0, Integer.MAX_VALUE));
+        due("place of nothing", -1, () -> x.place(0, MOST));
         due("no instance 1", INDEX, () -> x.place(1, 0));
         due("no instance -1", INDEX, () -> x.place(-1, 0));
-        due("no such instance", INDEX, () -> x.place(Integer.MIN_VALUE, 0));
+        due("no such instance", INDEX, () -> x.place(LEAST, 0));
     }
 
     // Promise 16
@@ -759,7 +701,7 @@ public final class PromiseTest {
             due("told(" + what + ")", all[what], () -> x.told(w));
         }
         due("told(-1)", -1, () -> x.told(-1));
-        due("told of nothing", -1, () -> x.told(Integer.MIN_VALUE));
+        due("told of nothing", -1, () -> x.told(LEAST));
         x.read();
         due("refused at", 8, () -> x.told(7));
         due("came", 0, () -> x.told(6));
