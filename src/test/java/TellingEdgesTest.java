@@ -588,10 +588,20 @@ public final class TellingEdgesTest extends Checks {
         by("A byte that was told last.");
         TextRegions x = row(2, 0);
         x.write();
-        String told = lookOf(x).replaceAll("i[^b]*", "");
-        x.order(8);
-        due("the row has changed", "0 2", () -> rowOf(x));
-        due("the bytes have not", told, () -> lookOf(x).replaceAll("i[^b]*", ""));
+        int bytes = x.told(5);
+        int[] told = new int[bytes];
+        for (int i = 0; i < bytes; i++) {
+            told[i] = x.byteAt(i);
+        }
+        for (int tries = 1; tries <= 8; tries += 7) {
+            x.order(tries);
+            due("the row has changed", "0 2", () -> rowOf(x));
+            due("so many are told still", bytes, () -> x.told(5));
+            for (int i = 0; i < bytes; i++) {
+                int n = i;
+                due("byte " + i + " has not", told[i], () -> x.byteAt(n));
+            }
+        }
     }
 
     private static void theLastTry() {
