@@ -10,7 +10,7 @@ public final class ModelTest {
     private static int wrong = 0;
 
     public static void main(String[] args) {
-        for (int run = 0; run < 500; run++) {
+        for (int run = 0; run < 1500; run++) {
             new Run(run).go();
         }
         for (int why = 1; why <= 9; why++) {
@@ -34,6 +34,7 @@ public final class ModelTest {
 
     /** One run of at most 512 calls. */
     private static final class Run {
+        static final int MOST_CALLS = 512;
         static final int[][] refusals = new int[2][10];
         static int readings = 0;
         static int changes = 0;
@@ -43,6 +44,7 @@ public final class ModelTest {
         final TextRegions real;
         final Model model;
         final int spread;
+        /** How many the real object has had, or a few more. */
         int calls = 0;
 
         Run(int number) {
@@ -72,7 +74,7 @@ public final class ModelTest {
             for (int i = 0; i < instances; i++) {
                 call(2);
             }
-            while (calls < 505) {
+            while (calls < MOST_CALLS) {
                 call(draw(20));
             }
         }
@@ -238,7 +240,7 @@ public final class ModelTest {
             if (!rightly && draw(8) == 0) {
                 bits.append("00000000");
             }
-            if (calls + bits.length() / 8 + 12 > 510) {
+            if (calls + bits.length() / 8 > MOST_CALLS) {
                 calls += 20;
                 return;
             }
@@ -279,16 +281,19 @@ public final class ModelTest {
             return bits.substring(0, Math.min(bits.length(), 40 + draw(60)));
         }
 
-        /** All that can be seen. */
+        /** What is told, and now and then all of the instances, else of a few: a run has 512 calls. */
         void look() {
-            for (int w = -1; w <= 8; w++) {
+            for (int w = -1; w <= 8 && calls < MOST_CALLS; w++) {
                 int what = w;
+                calls++;
                 same("told(" + w + ")", answer(() -> real.told(what)), answer(() -> model.told(what)));
             }
-            for (int i = 0; i < model.instances.size(); i++) {
-                for (int w = 0; w <= 6; w++) {
+            int apart = draw(6) == 0 ? 1 : 11;
+            for (int i = draw(apart); i < model.instances.size(); i += apart) {
+                for (int w = 0; w <= 6 && calls < MOST_CALLS; w++) {
                     int instance = i;
                     int what = w;
+                    calls++;
                     same("place(" + i + ", " + w + ")", answer(() -> real.place(instance, what)),
                             answer(() -> model.place(instance, what)));
                 }
